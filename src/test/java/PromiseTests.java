@@ -276,13 +276,35 @@ public final class PromiseTests {
         commitWith(g, 0, 2);
         due("4: the HOLD has no event", g.value(2), 10);
         due("4: another HOLD keeps its event", g.value(3), 2);
+        commitWith(g, 1, 8);
+        due("4: nor the one it had before its tie", g.value(2), 10);
         for (int left = 4; left >= 0; left--) {
             due("4: left", g.retract(), left);
         }
         due("4: none left", g.retract(), SignalGraph.BAD);
         due("4: again", g.retract(), SignalGraph.BAD);
-        due("4: transactions stay", g.transactions(), 2);
+        due("4: transactions stay", g.transactions(), 3);
         due("4: from 0 again", g.node(SOURCE, 0, 0, 0), 0);
+        promise4Order();
+    }
+
+    // The order of the nodes changes with each retraction: first node 2 goes before 0, then node 0 stands alone.
+    private static void promise4Order() {
+        SignalGraph g = new SignalGraph();
+        g.node(HOLD, -1, 7, 0);
+        g.node(CHANGE, 0, 0, 0);
+        g.node(SOURCE, 0, 0, 0);
+        g.tie(0, 2);
+        due("4: three nodes", commitWith(g, 2, 1), 2);
+        dueHas("4: the CHANGE over the tie", g, 1, 1);
+        g.retract();
+        due("4: two nodes", g.commit(), 0);
+        dueNone("4: the CHANGE without the tie", g, 1);
+        g.retract();
+        g.retract();
+        g.node(SOURCE, 0, 0, 0);
+        due("4: one node", commitWith(g, 0, 3), 1);
+        dueHas("4: the node alone", g, 0, 3);
     }
 
     // A number that looks like the retracted node is no event: only HOLDs lose theirs.
@@ -529,6 +551,17 @@ public final class PromiseTests {
         commitWith(g, 0, 0);
         due("6: SELECT, 0", g.value(5), 30);
         dueHas("6: SELECT before is that after the last", g, 8, 7);
+
+        SignalGraph select = withSources(1);
+        select.node(HOLD, 0, 0, 0);
+        select.node(HOLD, -1, 11, 0);
+        select.node(HOLD, -1, 22, 0);
+        select.node(SELECT, 1, 2, 3);
+        due("6: SELECT the second", select.value(4), 22);
+        commitWith(select, 0, 1);
+        due("6: SELECT the first", select.value(4), 11);
+        commitWith(select, 0, 0);
+        due("6: SELECT the second again", select.value(4), 22);
     }
 
     private static void promise6Change() {
@@ -636,7 +669,7 @@ public final class PromiseTests {
     }
 
     private static void promise11() {
-        // The parts of node 4 (or 2 and 3 as cells, 0 and 1 as events), a letter per node 0 to 3.
+        // Node 4's kind and operands; then a p for each of the events 0 and 1 and the cells 2 and 3 that is a part.
         Object[][] rows = {
             {SOURCE, 0, 0, 0, "----"}, {MAP, 1, 0, 2, "-p--"}, {FILTER, 1, 0, 0, "-p--"}, {MERGE, 0, 1, 2, "pp--"},
             {HOLD, 1, 0, 0, "-p--"}, {HOLD, -1, 0, 0, "----"}, {SNAP, 0, 3, 1, "p---"}, {LIFT, 2, 3, 0, "--pp"},
