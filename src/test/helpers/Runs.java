@@ -1,6 +1,7 @@
 import java.nio.file.Files;
 import java.nio.file.Path;
 import java.util.ArrayList;
+import java.util.Arrays;
 import java.util.List;
 
 // Runs of calls on a new object, written as text, each under the sentence of the document that it tests.
@@ -92,10 +93,10 @@ final class Runs {
     private void make(List<String> calls, int[] levels) {
         int room = MOST_CALLS - calls.size();
         if (room < 0) {
-            throw new IllegalArgumentException(under + ": a run of " + calls.size() + " calls");
+            throw new AssertionError(under + ": a run of " + calls.size() + " calls");
         }
         SignalGraph g = new SignalGraph();
-        String how = levels.length == 0 ? "" : " (with levels " + java.util.Arrays.toString(levels) + " between)";
+        String how = levels.length == 0 ? "" : " (with levels " + Arrays.toString(levels) + " between)";
         for (int i = 0; i < calls.size(); i++) {
             if (levels.length > 0 && room > 0) {
                 int k = levels[i % levels.length];
@@ -121,7 +122,13 @@ final class Runs {
         for (int i = 1; i < words.length; i++) {
             args[used++] = number(words[i]);
         }
-        int got = answer(g, method, args);
+        int got;
+        try {
+            got = answer(g, method, args);
+        } catch (RuntimeException thrown) {
+            report(where + ", " + sides[0] + ", threw " + thrown);
+            return;
+        }
         if (sides.length == 2) {
             if (got != number(sides[1])) {
                 report(where + ", " + sides[0] + ", answered " + got + ", due is " + sides[1]);
@@ -129,7 +136,7 @@ final class Runs {
         } else if (method.equals("node") ? got < 0 : isChange(method) && got == 0) {
             report(where + ", " + call + ", was refused with " + got);
         } else if (!method.equals("node") && !isChange(method) && !method.equals("commit")) {
-            throw new IllegalArgumentException(under + ": no answer for " + call);
+            throw new AssertionError(under + ": no answer for " + call);
         }
     }
 
@@ -163,7 +170,7 @@ final class Runs {
             case "leads": return g.leads(args[0], args[1]) ? 1 : 0;
             case "transactions": return g.transactions();
             case "level": return g.level(args[0]) ? 1 : 0;
-            default: throw new IllegalArgumentException("no method " + method);
+            default: throw new AssertionError("no method " + method);
         }
     }
 

@@ -450,6 +450,29 @@ public final class ModelTests {
             oneCall(run, call, g, model, 5 + below(7));
             call++;
         }
+        goOn(g);
+    }
+
+    // What calls after the 512th answer is free, but none may throw (LANGUAGE.md, rule 7).
+    private static void goOn(SignalGraph g) {
+        for (int i = 0; i < 100; i++) {
+            int n = below(6) == 0 ? EDGES[below(EDGES.length)] : below(24);
+            int m = below(6) == 0 ? EDGES[below(EDGES.length)] : below(24);
+            g.node(below(15), n, m, below(24));
+            g.tie(n, m);
+            g.fire(n, m);
+            g.commit();
+            g.had(n);
+            g.value(n);
+            g.times(n);
+            g.sort(n);
+            g.leads(n, m);
+            g.transactions();
+            g.level(m);
+            if (below(3) == 0) {
+                g.retract();
+            }
+        }
     }
 
     public static void main(String[] args) {

@@ -84,7 +84,7 @@ public final class PromiseEdgeTests {
             "65536", "MIN", "MAX")).append("sort 2 -> BAD; node 14 1 0 0 -> 2; node 0 0 0 0 -> 3");
         promise(2, "kind outside 0..14", outside.toString());
         for (int kind = 0; kind < KINDS.length; kind++) {
-            promise(2, "a node that it is made of is not there", notThere(kind));
+            promise(2, "a node that it is made of is not there", notThere(kind, "SOURCE"), notThere(kind, "HOLD -1"));
             promise(2, "or not of the right sort: BAD", wrongSort(kind));
             promise(2, "Else answers its number",
                 "SOURCE; HOLD -1;" + Runs.each(made(kind, fitting(kind, "%")) + " -> 2; retract -> 2", NEVER)
@@ -93,8 +93,8 @@ public final class PromiseEdgeTests {
     }
 
     // Node 2 has been there and is retracted; node 3 never was.
-    private static String notThere(int kind) {
-        StringBuilder text = new StringBuilder("SOURCE; HOLD -1; SOURCE; retract -> 2; HOLD -1; retract -> 2;");
+    private static String notThere(int kind, String retracted) {
+        StringBuilder text = new StringBuilder("SOURCE; HOLD -1;" + retracted + "; retract -> 2;");
         for (int i = 0; i < 3; i++) {
             if (OPERANDS[kind].charAt(i) == '-') {
                 continue;
@@ -158,6 +158,7 @@ public final class PromiseEdgeTests {
             "SOURCE; SOURCE; HOLD 0 3; tie 2 1 -> true; value 2 -> 3; leads 2 1 -> true; leads 2 0 -> false;"
             + "fire 0 5; commit; value 2 -> 3; fire 1 6; commit; value 2 -> 6",
             "SOURCE; SOURCE; HOLD 0 3; fire 1 5; commit; tie 2 1; value 2 -> 3; commit; value 2 -> 3",
+            "SOURCE; SOURCE; HOLD 0 3; fire 0 5; commit; tie 2 1; value 2 -> 5; commit; value 2 -> 5",
             "SOURCE; SOURCE; HOLD 0 3; fire 1 5; tie 2 1; commit; value 2 -> 5",
             "HOLD -1 3; SOURCE; tie 0 1; fire 1 5; commit; value 0 -> 5; tie 0 1; fire 1 6; commit; value 0 -> 6",
             "SOURCE; HOLD -1 1; HOLD -1 2; tie 1 0; tie 2 0; fire 0 5; commit; value 1 -> 5; value 2 -> 5");
@@ -210,7 +211,9 @@ public final class PromiseEdgeTests {
             "SOURCE; MAP 0 1; fire 0 5; commit -> 2; retract -> 1; event 1 -> none; event 0 -> 5; fire 0 6; commit -> 1",
             "SOURCE; HOLD 0; retract -> 1; SOURCE -> 1; sort 1 -> 1; fire 1 3; commit -> 1; event 1 -> 3",
             "SOURCE; HOLD 0 3; retract -> 1; HOLD -1 4 -> 1; value 1 -> 4; leads 1 0 -> false; fire 0 5; commit; value 1 -> 4",
-            "SOURCE; MAP 0 2; retract -> 1; COUNT 0; fire 0 5; commit -> 2; event 1 -> 5");
+            "SOURCE; MAP 0 2; retract -> 1; COUNT 0; fire 0 5; commit -> 2; event 1 -> 5",
+            "HOLD -1 0; CHANGE 0; SOURCE; SOURCE; tie 0 2; fire 2 5; commit -> 2; retract -> 3; fire 2 6; commit -> 2;"
+            + "event 1 -> 6; value 0 -> 6");
         promise(4, "HOLDs with it as their event have none then",
             "SOURCE; HOLD 0 1; HOLD 0 2; MAP 0 1 1; tie 1 3; tie 2 3; fire 0 5; commit; value 1 -> 6; retract -> 3;"
             + "leads 1 0 -> false; leads 2 0 -> false; value 1 -> 6; value 2 -> 6; fire 0 7; commit -> 1; value 1 -> 6;"

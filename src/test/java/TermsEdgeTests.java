@@ -103,7 +103,7 @@ public final class TermsEdgeTests {
             "SOURCE; fire 0 5; commit -> 1; event 0 -> 5; commit -> 0; event 0 -> none",
             "SOURCE; SOURCE; fire 0 5; commit; fire 1 6; commit -> 1; event 0 -> none; event 1 -> 6",
             "SOURCE; commit; commit; fire 0 5; commit -> 1; event 0 -> 5",
-            "SOURCE; fire 0 5; SOURCE; HOLD 0; tie 2 1; tie 2 -1; retract -> 2; commit -> 1; event 0 -> 5");
+            "SOURCE; fire 0 5; SOURCE; HOLD 0; tie 2 1; tie 2 0; tie 2 -1; retract -> 2; commit -> 1; event 0 -> 5");
         terms("if any", "SOURCE; commit -> 0; event 0 -> none", "SOURCE; SOURCE; fire 1 3; commit -> 1; event 0 -> none");
         terms("(the last one)",
             "SOURCE; fire 0 5; fire 0 7; commit -> 1; event 0 -> 7; times 0 -> 1; commit -> 0",
@@ -121,7 +121,7 @@ public final class TermsEdgeTests {
 
     private static void filter() {
         terms("e's value, if it has one and that is at least m",
-            "SOURCE; FILTER 0 5; fire 0 4; commit -> 1; event 1 -> none; fire 0 5; commit -> 2; event 1 -> 5;"
+            "SOURCE; FILTER 0 5; fire 0 4; commit -> 1; event 1 -> none; fire 0 0; commit -> 1; event 1 -> none; fire 0 5; commit -> 2; event 1 -> 5;"
             + "fire 0 6; commit -> 2; event 1 -> 6",
             "SOURCE; FILTER 0 0; FILTER 0 -1; FILTER 0 MIN; commit -> 0; event 1 -> none; event 2 -> none; event 3 -> none;"
             + "fire 0 -1; commit -> 3; event 1 -> none; event 2 -> -1; fire 0 0; commit -> 4; event 1 -> 0;"
@@ -253,14 +253,14 @@ public final class TermsEdgeTests {
             "HOLD -1 3; TIMES 0 5 -1; TIMES 0 0 0; TIMES 0 0 7; TIMES 0 -2 0; value 1 -> 14; value 2 -> 0; value 3 -> 7;"
             + "value 4 -> -6",
             "SOURCE; HOLD 0 3; TIMES 1 5 -1; fire 0 0; commit; value 2 -> -1");
-        String cells = "SOURCE; HOLD 0 0; HOLD -1 7; LIFT 1 2; SELECT 1 2 3; TIMES 1 2 5;";
+        String cells = "SOURCE; HOLD 0 0; HOLD -1 7; LIFT 1 2; SELECT 1 1 2; TIMES 1 2 5;";
         terms("before from before, after from after",
-            cells + "SNAP 0 3; SNAP 0 4; SNAP 0 5; CHANGE 3; CHANGE 4; CHANGE 5; fire 0 1; commit -> 6;"
-            + "event 6 -> 8; event 7 -> 8; event 8 -> 6; event 9 -> 8; event 10 -> none; event 11 -> 7;"
-            + "fire 0 3; commit -> 6; event 6 -> 11; event 7 -> 10; event 8 -> 10; event 9 -> 10; event 10 -> none;"
+            cells + "SNAP 0 3; SNAP 0 4; SNAP 0 5; CHANGE 3; CHANGE 4; CHANGE 5; fire 0 1; commit -> 7;"
+            + "event 6 -> 8; event 7 -> 8; event 8 -> 6; event 9 -> 8; event 10 -> 1; event 11 -> 7;"
+            + "fire 0 3; commit -> 7; event 6 -> 11; event 7 -> 4; event 8 -> 10; event 9 -> 10; event 10 -> 3;"
             + "event 11 -> 11",
             cells + "value 3 -> 7; value 4 -> 7; value 5 -> 5; fire 0 1; value 3 -> 7; value 4 -> 7; value 5 -> 5;"
-            + "commit; value 3 -> 8; value 4 -> 7; value 5 -> 7",
+            + "commit; value 3 -> 8; value 4 -> 1; value 5 -> 7",
             "SOURCE; HOLD 0 0; TIMES 1 1 0; GATE 0 2; SWITCH 2 0 3; fire 0 1; commit -> 1; fire 0 0; commit -> 3;"
             + "fire 0 1; commit -> 1",
             "SOURCE; HOLD 0 4; fire 0 9; commit; LIFT 1 1; TIMES 1 1 1; SELECT 1 2 3; CHANGE 2; CHANGE 3; CHANGE 4;"
@@ -276,6 +276,7 @@ public final class TermsEdgeTests {
             four + "MERGE 0 1 2;" + leadsTo(4, true, 0, 1) + leadsTo(4, false, 2, 3),
             four + "HOLD 1 0 2;" + leadsTo(4, true, 1) + leadsTo(4, false, 0, 2, 3),
             four + "HOLD -1 1 2;" + leadsTo(4, false, 0, 1, 2, 3),
+            "HOLD -1;" + "SOURCE;".repeat(23) + leadsTo(0, false, 0, 1, 11, 22, 23),
             four + "SNAP 1 2 0;" + leadsTo(4, true, 1) + leadsTo(4, false, 0, 3),
             four + "LIFT 2 3 0;" + leadsTo(4, true, 2, 3) + leadsTo(4, false, 0, 1),
             four + "GATE 1 2 0;" + leadsTo(4, true, 1) + leadsTo(4, false, 0, 3),
@@ -322,6 +323,8 @@ public final class TermsEdgeTests {
             + "tie 0 6; tie 2 1; tie 4 3; fire 6 9; commit -> 4; value 4 -> 9; event 5 -> 9; event 1 -> 9",
             "HOLD -1 1; TIMES 0 2 0; CHANGE 1; SOURCE; MAP 3 1 1; tie 0 4; fire 3 5; commit -> 3; event 2 -> 12;"
             + "SOURCE; tie 0 5; fire 5 7; commit -> 2; event 2 -> 14; retract -> 5; tie 0 3; fire 3 1; commit -> 3;"
-            + "event 2 -> 2");
+            + "event 2 -> 2",
+            "SOURCE; commit -> 0; MAP 0 2; fire 0 3; commit -> 2; event 1 -> 6; HOLD 1; TIMES 2 2; CHANGE 3; fire 0 4;"
+            + "commit -> 3; event 4 -> 16");
     }
 }
