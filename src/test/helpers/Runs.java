@@ -4,7 +4,8 @@ import java.util.ArrayList;
 import java.util.Arrays;
 import java.util.List;
 
-// Runs of calls on a new object, written as text, each under the sentence of the document that it tests.
+// Runs of calls on a new object, written as text, each under the sentence of the document that it tests, or under
+// words that tell which sentences meet in it.
 //
 // A run is a row of calls, parted by line ends or semicolons. A call is the name of a method, or of a kind for node
 // with that kind, then its arguments, then the answer that is due behind "->". Arguments left out are 0. A call that
@@ -35,6 +36,17 @@ final class Runs {
         if (!plain(sectionText(section)).contains(plain(sentence))) {
             report("the document does not say so");
         }
+        makeAll(texts);
+    }
+
+    // Several sentences at once, under words of the test's own.
+    void together(String words, String... texts) {
+        under = words;
+        sentences++;
+        makeAll(texts);
+    }
+
+    private void makeAll(String[] texts) {
         for (String text : texts) {
             runs++;
             List<String> calls = callsOf(text);
