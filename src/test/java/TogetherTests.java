@@ -125,6 +125,13 @@ public final class TogetherTests {
     }
 
     private static void eventsOfEvents() {
+        runs.together("each kind of an event that is itself of an event",
+            "SOURCE; MAP 0 2 0; HOLD -1 1; HOLD -1 0; MAP 1 1 1; FILTER 1 5; MERGE 1 4; SNAP 1 2; GATE 1 2; COUNT 1;"
+            + "SWITCH 2 1 4; SWITCH 3 1 4; DELAY 1; ONCE 1; HOLD 1 0; fire 0 2; commit -> 10; event 4 -> 5; event 5 -> none;"
+            + "event 6 -> 9; event 7 -> 5; event 8 -> 4; event 9 -> 4; event 10 -> 4; event 11 -> 5; event 12 -> none;"
+            + "event 13 -> 4; value 14 -> 4; commit -> 1; event 12 -> 4; fire 0 3; commit -> 10; event 4 -> 7; event 5 -> 6;"
+            + "event 6 -> 13; event 7 -> 7; event 8 -> 6; event 9 -> 10; event 10 -> 6; event 11 -> 7; event 12 -> none;"
+            + "event 13 -> none; value 14 -> 6");
         runs.together("SWITCH, ONCE and COUNT on one another",
             "SOURCE; SOURCE; HOLD 1 1; SWITCH 2 0 1; ONCE 3; COUNT 3; fire 0 5; fire 1 0; commit -> 5; event 3 -> 5;"
             + "event 4 -> 5; event 5 -> 5; fire 0 6; fire 1 0; commit -> 4; event 3 -> 0; event 4 -> none; event 5 -> 5;"
